@@ -236,7 +236,8 @@ public final class NamedFabric {
         if (what < 0 || what > 1) {
             return BAD;
         }
-        trials.cutEachFitting(now, clues);
+        trials.cutEach(now);
+        trials.dropUnfit(clues, now.everyHost());
         if (what == 0) {
             return trials.size();
         }
@@ -244,7 +245,8 @@ public final class NamedFabric {
     }
 
     public int ask() {
-        trials.cutEachFitting(now, clues);
+        trials.cutEach(now);
+        trials.dropUnfit(clues, now.everyHost());
         return trials.size() < 2 ? NONE : trials.bestQuestion(now.hostTotal());
     }
 
@@ -631,7 +633,8 @@ public final class NamedFabric {
         }
 
         int zoneSet(int a, int z) {
-            return hasSwitch(a) && z >= 0 && z < ZONE_COUNT ? zoneSets[a * ZONE_COUNT + z] : 0;
+            boolean known = a >= 0 && a < switches && z >= 0 && z < ZONE_COUNT;
+            return known ? zoneSets[a * ZONE_COUNT + z] : 0;
         }
 
         void setZone(int fabric, int z, int set) {
@@ -1049,11 +1052,10 @@ public final class NamedFabric {
             }
         }
 
-        void cutEachFitting(Net net, Clues clues) {
-            cutEach(net);
+        void dropUnfit(Clues clues, int everyHost) {
             int fitting = 0;
             for (int i = 0; i < size; i++) {
-                if (clues.fit(views[i], net.everyHost())) {
+                if (clues.fit(views[i], everyHost)) {
                     codes[fitting] = codes[i];
                     views[fitting] = views[i];
                     fitting++;

@@ -8,6 +8,7 @@ final class ImagesTest {
         whatImagesDoNotKeep();
         wrongImages();
         counting();
+        countingTheMost();
         Due.end();
     }
 
@@ -107,5 +108,23 @@ final class ImagesTest {
         x.zones(0, 1, 0);
         Due.is("count(7)", x.count(7), 3);
         Due.is("count(6)", x.count(6), 5);
+    }
+
+    private static void countingTheMost() {
+        NamedFabric x = Due.told("s1 1 1;s1 2 2;s1 3 3;s1 4 4;s1 5 5;s1 6 6;h0;h1;h2;h3;h4;h5;h0;h0;");
+        for (int a = 0; a < 6; a++) {
+            for (int b = a + 1; b < 6; b++) {
+                Due.is("joins(" + a + ", " + b + ")", x.joins(a, b), 1);
+            }
+        }
+        int[] due = {6, 8, 1, 15, 0, 0, 4 + 5 + 6 + 7 + 8, 28, 0, 0, 5};
+        for (int what = 0; what < due.length; what++) {
+            Due.is("all joined: count(" + what + ")", x.count(what), due[what]);
+        }
+        Due.is("all joined: which(0)", x.which(0), 15);
+        Due.is("all joined: weakest(0)", x.weakest(0), 1);
+        Due.is("all joined: ask()", x.ask(), 1);
+        Due.is("all joined: zones(5, 3, 255)", x.zones(5, 3, 255), 0);
+        Due.is("nobody sees another than ahead", x.count(6), 4 + 5 + 6 + 7 + 8);
     }
 }

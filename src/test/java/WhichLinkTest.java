@@ -54,6 +54,12 @@ final class WhichLinkTest {
         Due.is("which(0)", x.which(0), 4);
         Due.is("sees(1, 2, 0)", x.sees(1, 2, 0), 1);
         Due.is("which(1)", x.which(1), 12);
+        NamedFabric y = Due.told("s1 1 1;s1 2 2;");
+        y.joins(0, 1);
+        y.sees(0, 1, 0);
+        Due.is("which(0) of hosts that there are not", y.which(0), 0);
+        y.forget();
+        Due.is("which(0) where that is forgotten", y.which(0), 1);
     }
 
     private static void whichLink() {
