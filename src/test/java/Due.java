@@ -1,4 +1,5 @@
 import java.util.function.Consumer;
+import java.util.function.Function;
 import java.util.function.ToIntFunction;
 
 /** What the tests of the project share: answers that are due, texts told, all that can be seen of an object. */
@@ -55,22 +56,40 @@ final class Due {
         return x;
     }
 
-    /** A call is refused with an answer, and nothing changes: not what can be seen, not what can be undone. */
+    static NamedFabric fresh(Consumer<NamedFabric> made) {
+        NamedFabric x = new NamedFabric();
+        made.accept(x);
+        return x;
+    }
+
+    /** A call answers so, and nothing changes: not what can be seen, undone, gone back to or told. */
     static void refused(Consumer<NamedFabric> made, String call, ToIntFunction<NamedFabric> does, int want) {
-        NamedFabric without = new NamedFabric();
-        made.accept(without);
-        NamedFabric with = new NamedFabric();
-        made.accept(with);
-        is(call, does.applyAsInt(with), want);
-        same("behind " + call, all(with), all(without));
-        for (int i = 0; i < 2; i++) {
-            is("undo() behind " + call, with.undo(), without.undo());
-            same("undone behind " + call, asItIs(with), asItIs(without));
+        is(call, does.applyAsInt(fresh(made)), want);
+        Consumer<NamedFabric> with = made.andThen(x -> does.applyAsInt(x));
+        unchanged(made, with, "behind " + call, Due::all);
+        for (int times = 1; times <= 6; times++) {
+            int undone = times;
+            unchanged(made, with, undone + " times undone behind " + call, x -> undone(x, undone));
         }
         for (int image = 0; image < 2; image++) {
-            is("back() behind " + call, with.back(image), without.back(image));
-            same("back behind " + call, asItIs(with), asItIs(without));
+            int kept = image;
+            unchanged(made, with, "back(" + kept + ") behind " + call, x -> x.back(kept) + ": " + all(x));
         }
+        unchanged(made, with, "tells() behind " + call, x -> x.tells() + ": " + all(x));
+    }
+
+    /** Each probe has objects of its own, so that none is used for more than 512 calls. */
+    private static void unchanged(Consumer<NamedFabric> made, Consumer<NamedFabric> with, String what,
+            Function<NamedFabric, String> probe) {
+        same(what, probe.apply(fresh(with)), probe.apply(fresh(made)));
+    }
+
+    private static String undone(NamedFabric x, int times) {
+        StringBuilder said = new StringBuilder();
+        for (int i = 0; i < times; i++) {
+            said.append(x.undo()).append(' ');
+        }
+        return said.append(all(x)).toString();
     }
 
     /** All that queries answer. */
@@ -95,7 +114,7 @@ final class Due {
         int switches = x.count(0);
         for (int a = 0; a < switches; a++) {
             said.append("| s");
-            for (int what = 0; what < 7; what++) {
+            for (int what = 0; what < 8; what++) {
                 said.append(' ').append(x.device(a, what));
             }
             for (int z = 0; z < 4; z++) {
