@@ -103,6 +103,7 @@ final class EdgeFabricTest {
         row("ranked up again", x, 4, 1, 1, 1);
     }
 
+    // "PRINCIPAL of a FABRIC: of its SWITCHES"
     private static void principalOfEachFabric() {
         NamedFabric x = chain("s3 1 1;s1 2 2;s2 3 3;s5 4 3;", 0, 1, 2);
         row("one and a single one", x, 4, 1, 1, 1, 3);
@@ -146,6 +147,7 @@ final class EdgeFabricTest {
         row("all want 1", chain("s1 1 1;s1 2 1;s1 3 1;s1 4 1;s1 5 1;s1 6 1;", 0, 1, 2, 3, 4, 5), 3, 1, 2, 3, 4, 5, 6);
     }
 
+    // "WANT a BLOCK (1 to 8), or any (0)", ".. else the lowest that none has got"
     private static void blocksOfAny() {
         row("any", chain("s1 1 0;s1 2 0;s1 3 0;s1 4 0;s1 5 0;s1 6 0;", 0, 1, 2, 3, 4, 5), 3, 1, 2, 3, 4, 5, 6);
         row("wanted, but got already", chain("s1 1 0;s2 2 1;s3 3 2;", 0, 1, 2), 3, 1, 2, 3);
@@ -277,6 +279,7 @@ final class EdgeFabricTest {
         }
     }
 
+    // "JOINED, two SWITCHES (no LINK between them is UP)": a clashed one may be joined anew, and is not by itself
     private static void clashedStays() {
         NamedFabric x = Due.told("s1 1 1;s1 2 1;");
         x.joins(0, 1);
@@ -382,6 +385,7 @@ final class EdgeFabricTest {
         }
     }
 
+    // "A HOST SEES another one, if both are at SWITCHES of one FABRIC": none that is nowhere
     private static void seesNowhere() {
         NamedFabric x = Due.told("s1 1 1;h-;h-;h0;");
         Due.is("nowhere: host(0, 1)", x.host(0, 1), 0);
@@ -439,6 +443,7 @@ final class EdgeFabricTest {
         Due.is("the other way round: host(2, 3)", x.host(2, 3), 1);
     }
 
+    // "each HOST that SEES now whom it did not see ahead of that, or the other way round": no other has a NOTICE
     private static void noNoticeWithoutChange() {
         NamedFabric x = chain("s1 1 1;s1 2 1;s1 3 3;h0;h1;h0;", 0, 1);
         int ahead = x.count(6);
@@ -454,6 +459,7 @@ final class EdgeFabricTest {
         Due.is("may be undone", x.count(10), 5);
     }
 
+    // "has one NOTICE more": as many as 512 calls can bring
     private static void manyNotices() {
         NamedFabric x = Due.told("s1 1 1;h0;h0;");
         for (int i = 0; i < 150; i++) {
@@ -534,6 +540,7 @@ final class EdgeFabricTest {
         Due.is("link(1, 3)", y.link(1, 3), 0);
     }
 
+    // "(5 are known, older ones are lost)", wherever among the five the latest stands
     private static void undoneAndDoneAgain() {
         NamedFabric x = new NamedFabric();
         Deque<Integer> known = new ArrayDeque<>();

@@ -363,6 +363,7 @@ final class EdgeLinkTest {
         Due.is("as it was", x.device(0, 1), 7);
     }
 
+    // "All of that becomes as an IMAGE has it": time and again, till it is kept anew
     private static void imagesStay() {
         NamedFabric x = rich();
         String ahead = Due.asItIs(x);
@@ -425,6 +426,7 @@ final class EdgeLinkTest {
         Due.is("back(0) stays gone", x.back(0), STATE);
     }
 
+    // "3 LINKS that are UP, 4 CLASHED ones .. 7 twos of HOSTS": as many as there can be
     private static void countsAtTheirMost() {
         NamedFabric x = Due.told(FIVE + "s1 6 6;" + "h0;h1;h2;h3;h4;h5;h0;h1;");
         int links = 0;

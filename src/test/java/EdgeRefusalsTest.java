@@ -45,6 +45,7 @@ final class EdgeRefusalsTest {
         Due.type(x, GOOD);
     }
 
+    // "the first of these that is so: BAD .., STATE"
     private static void badAheadOfState(Edges e) {
         e.refused("zones(0, 4, 0): no such zone", x -> x.zones(0, 4, 0), BAD);
         e.refused("zones(0, -1, 0): no such zone", x -> x.zones(0, -1, 0), BAD);
@@ -65,6 +66,7 @@ final class EdgeRefusalsTest {
         e.refused("back(-1): none kept", x -> x.back(-1), BAD);
     }
 
+    // "STATE (as told)": it is UP, there is no LINK, it is that, it is there, it is so
     private static void states(Edges e) {
         e.refused("joins(0, 1): up", x -> x.joins(0, 1), STATE);
         e.refused("joins(1, 0): up", x -> x.joins(1, 0), STATE);
@@ -102,6 +104,7 @@ final class EdgeRefusalsTest {
         });
     }
 
+    // "the first of these that is so: BAD .., FULL"
     private static void badAheadOfFull() {
         Edges full = typed(100);
         full.bad("type(?) when full", (x, n) -> x.type(n), -1, 256, NONE, Integer.MIN_VALUE, Integer.MAX_VALUE);

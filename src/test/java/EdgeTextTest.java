@@ -118,6 +118,7 @@ final class EdgeTextTest {
         fault("s1 111;", 3);
     }
 
+    // "blanks (32)": what looks like one is none
     private static void otherLettersAreNoBlanks() {
         int[] letters = {0, 9, 10, 11, 12, 13, 31, 33, 127, 128, 133, 160, 255};
         for (int letter : letters) {
@@ -257,6 +258,7 @@ final class EdgeTextTest {
         items("s1 10 0;s1 90 0;", 2);
     }
 
+    // "FAULT: the place of .. the first TOKEN that can't stand there", whichever sort it is of
     private static void theFirstOfSeveralFaults() {
         fault("x100", 0);
         fault("100x", 0);
